@@ -303,7 +303,6 @@ public final class SensorHub {
         }
         trial.copyFrom(hub);
         trial.capacity = MAX_ENTRIES;
-        trial.mostEntries = 0;
         trial.runTicks(ticks);
         if (trial.wakesOf(FULL) > hub.wakesOf(FULL)) {
             return NONE;
@@ -385,17 +384,15 @@ public final class SensorHub {
             this.offset = offset;
             this.jitter = jitter;
             this.cost = cost;
-            becomeIdle();
         }
 
         void becomeComputed(int kind, int first, int second) {
             this.kind = kind;
             this.first = first;
             this.second = second;
-            becomeIdle();
         }
 
-        private void becomeIdle() {
+        void becomeIdle() {
             demand = NONE;
             period = NONE;
             forget();
@@ -631,7 +628,7 @@ public final class SensorHub {
         int energy;
         int capacity;
         int sensorCount;
-        /** The most entries that the store has held at once after an entry was stored. */
+        /** The most entries that the store held when one was stored, in the latest run of ticks. */
         int mostEntries;
         final int[] wakeCounts = new int[CAUSES];
         final Sensor[] sensors = new Sensor[MAX_SENSORS];
@@ -655,7 +652,6 @@ public final class SensorHub {
             energy = 0;
             capacity = FIRST_CAPACITY;
             sensorCount = 0;
-            mostEntries = 0;
             outages.size = 0;
             store.size = 0;
             for (int cause = 0; cause < CAUSES; cause++) {
@@ -675,7 +671,6 @@ public final class SensorHub {
             energy = other.energy;
             capacity = other.capacity;
             sensorCount = other.sensorCount;
-            mostEntries = other.mostEntries;
             System.arraycopy(other.wakeCounts, 0, wakeCounts, 0, CAUSES);
             outages.copyFrom(other.outages);
             store.copyFrom(other.store);
@@ -733,6 +728,7 @@ public final class SensorHub {
             if (sensor != null) {
                 sensor.becomePhysical(q, steps, slope, offset, jitter, cost);
                 sensor.source = number;
+                sensor.becomeIdle();
                 sensorCount++;
             }
             return number;
@@ -747,6 +743,7 @@ public final class SensorHub {
                 sensor.becomeComputed(kind, first, second);
                 sensor.least = Math.max(input.least, other.least);
                 sensor.source = input.source;
+                sensor.becomeIdle();
                 sensorCount++;
             }
             return number;
@@ -874,6 +871,7 @@ public final class SensorHub {
         }
 
         void runTicks(int ticks) {
+            mostEntries = 0;
             for (int i = 0; i < ticks; i++) {
                 now++;
                 receiveSamples();

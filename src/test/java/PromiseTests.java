@@ -21,6 +21,7 @@ public final class PromiseTests {
         append();
         clearText();
         load();
+        loadAfterForecasts();
         loadErrors();
         loadTokens();
         advance();
@@ -267,6 +268,17 @@ public final class PromiseTests {
         for (int number = 0; number < 5; number++) {
             due("source of " + number, x.sensor(number, 6), sources[number]);
         }
+        demandOfTheLastSensor();
+    }
+
+    private static void demandOfTheLastSensor() {
+        SensorHub x = hubOf("sensor 3 3 0 0 0 1;mean 0 1;mean 1 1;mean 2 1;mean 3 1;mean 4 1;mean 5 1;mean 6 1;");
+        x.subscribe(7, 6, 0);
+        for (int number = 0; number < 8; number++) {
+            due("demand on " + number, x.sensor(number, 1), 6);
+            due("period of " + number, x.sensor(number, 2), 6);
+        }
+        due("advance", x.advance(6), 1);
     }
 
     private static void dueDemands(SensorHub x, int[] demands, int[] periods) {
@@ -332,10 +344,23 @@ public final class PromiseTests {
         due("twice", x.unsubscribe(1), INVALID);
         due("with an empty store", x.unsubscribe(0), 5);
         due("change", x.wakes(2), 1);
-        x.subscribe(0, 1, 2);
-        due("a new client with an old number", x.client(0, 5), 0);
-        due("its greatest age", x.client(0, 7), NONE);
-        due("its deliveries", x.delivered(0, 0, 0), NONE);
+        aNumberThatIsUsedAgain();
+    }
+
+    private static void aNumberThatIsUsedAgain() {
+        SensorHub x = clock();
+        x.addOutage(0, 1, 3);
+        x.subscribe(0, 1, 400);
+        x.subscribe(0, 2, 1);
+        x.advance(6);
+        dueClient(x, 1, new int[] {0, 2, 1, 2, 0, 3, 2, 1, 3});
+        x.unsubscribe(1);
+        due("subscribe", x.subscribe(0, 5, 400), 1);
+        due("no restart", x.count(7), 0);
+        dueClient(x, 1, new int[] {0, 5, 400, 5, 0, 0, 0, NONE, 0});
+        due("its deliveries", x.delivered(1, 0, 0), NONE);
+        x.advance(1);
+        due("it takes the first sample", x.client(1, 4), 1);
     }
 
     private static void setCapacity() {
@@ -422,9 +447,46 @@ public final class PromiseTests {
         dueStates(x, 3);
     }
 
+    /** A text is read as if nothing had been before, whatever was looked at before. */
+    private static void loadAfterForecasts() {
+        SensorHub x = hubOf("sensor 1 5 1 0 0 1;sensor 1 5 1 0 0 1;outage 0 1 5;");
+        x.subscribe(0, 1, 2);
+        x.subscribe(1, 7, 400);
+        x.advance(3);
+        x.unsubscribe(1);
+        x.setCapacity(7);
+        x.subscribe(0, 1, 400);
+        x.subscribe(1, 1, 400);
+        due("restart", x.count(7), 3);
+        x.advance(5);
+        due("a forecast that ends with four entries in the store", x.forecastWakes(1, 1), 0);
+        write(x, "sensor 3 1 1 0 0 1;mean 0 3;");
+        due("load", x.load(), 2);
+        int[] counts = {0, 2, 0, 0, 0, 10, 0, 0, 5, 0};
+        for (int what = 0; what <= 9; what++) {
+            due("count(" + what + ")", x.count(what), counts[what]);
+        }
+        for (int cause = 0; cause <= 3; cause++) {
+            due("wakes(" + cause + ")", x.wakes(cause), 0);
+        }
+        for (int number = 0; number < 2; number++) {
+            int[] properties = {number == 0 ? 4 : 3, NONE, NONE, 0, NONE, NONE, 0};
+            for (int what = 0; what <= 6; what++) {
+                due("sensor(" + number + ", " + what + ")", x.sensor(number, what), properties[what]);
+            }
+        }
+        x.subscribe(1, 3, 400);
+        x.advance(3);
+        due("mean of one", x.sensor(1, 5), 3);
+    }
+
     private static void loadErrors() {
         CHECK.test("promise 10, errors of load");
         due("another word", loaded("summ 0 0;"), -10);
+        due("another word of the same length", loaded("xensor 1 1 0 0 0 1;"), -10);
+        due("another last letter", loaded("sensoz 1 1 0 0 0 1;"), -10);
+        due("a longer word", loaded("sensorz 1 1 0 0 0 1;"), -10);
+        due("a part of a word", loaded("sens 1 1 0 0 0 1;"), -10);
         due("a number", loaded(" 5;"), -11);
         due("an end", loaded(";"), -10);
         due("a capital", loaded("Sensor"), -10);
@@ -534,7 +596,20 @@ public final class PromiseTests {
         due("energy", x.count(6), 56);
         due("samples of a sensor that is off", x.sensor(0, 3), 0);
         smoothing();
+        smoothingOfAQuarter();
         missingSamples();
+    }
+
+    private static void smoothingOfAQuarter() {
+        // Late by 0, 2, 4, 1, 3, 0, 2, 4 of the period 5; expected are 10, 15, 21, 26, 31, 35, 40.
+        SensorHub x = hubOf("sensor 5 1 1 0 4 1;");
+        x.subscribe(0, 5, 400);
+        int[] stamps = {5, 10, 16, 21, 26, 30, 35, 41};
+        int[] late = {0, 2, 4, 1, 3, 0, 2, 4};
+        for (int i = 0; i < stamps.length; i++) {
+            x.advance(5 * (i + 1) + late[i] - x.count(0));
+            due("stamp " + i, x.sensor(0, 4), stamps[i]);
+        }
     }
 
     private static void smoothing() {
@@ -634,6 +709,20 @@ public final class PromiseTests {
         x.subscribe(0, 2, 0);
         x.unsubscribe(0);
         due("samples of one that is off", x.sensor(1, 3), 12);
+        meansForgetAtARestart();
+    }
+
+    private static void meansForgetAtARestart() {
+        SensorHub x = hubOf("sensor 2 1 5 0 0 1;mean 0 8;sensor 3 1 0 0 0 1;");
+        x.subscribe(1, 2, 400);
+        x.advance(6);
+        due("mean of three", x.sensor(1, 5), 20);
+        x.subscribe(2, 3, 400);
+        due("no sample", x.sensor(1, 5), NONE);
+        x.advance(2);
+        due("mean of one", x.sensor(1, 5), 40);
+        x.advance(2);
+        due("mean of two", x.sensor(1, 5), 45);
     }
 
     private static void divisions() {
@@ -757,6 +846,88 @@ public final class PromiseTests {
         due("the sixth was dropped", x.undo(), ILLEGAL);
         due("sensors", x.count(1), 1);
         undoGoesOn();
+        undoOfManyEntries();
+        undoBringsAllBack();
+    }
+
+    /** Each action, undone, leaves all answers as they were, and so do the actions done again. */
+    private static void undoBringsAllBack() {
+        SensorHub x = hubOf("sensor 2 3 7 1 1 3;sensor 3 2 13 500 2 2;mean 0 3;diff 0 1;outage 0 12 20;");
+        x.subscribe(2, 5, 9);
+        x.subscribe(3, 11, 30);
+        for (int round = 0; round < 12; round++) {
+            undoneAndDoneAgain(x, round);
+        }
+    }
+
+    private static void undoOfManyEntries() {
+        SensorHub x = clock();
+        x.subscribe(0, 1, 400);
+        x.setCapacity(30);
+        x.advance(29);
+        String before = allAnswers(x);
+        x.unsubscribe(0);
+        x.addSensor(2, 1, 9, 9, 1, 9);
+        x.subscribe(1, 2, 300);
+        x.advance(100);
+        x.undo();
+        x.undo();
+        x.undo();
+        due("undo", x.undo(), 1);
+        CHECK.isTrue("all is as before", allAnswers(x).equals(before));
+    }
+
+    private static void undoneAndDoneAgain(SensorHub x, int round) {
+        for (int action = 0; action < 9; action++) {
+            String before = allAnswers(x);
+            int answer = act(x, action, round);
+            String after = allAnswers(x);
+            // More time passes before the undo, so that what a state left out would not be as it was.
+            if (answer >= 0) {
+                x.advance(40);
+                x.undo();
+                CHECK.isTrue("all is as after the action " + action, allAnswers(x).equals(after));
+                x.undo();
+                CHECK.isTrue("all is as before the action " + action, allAnswers(x).equals(before));
+                due("the action " + action + " again", act(x, action, round), answer);
+                CHECK.isTrue("all is as after the action again " + action, allAnswers(x).equals(after));
+            }
+        }
+    }
+
+    private static int act(SensorHub x, int action, int round) {
+        switch (action) {
+            case 0: return x.advance(7 + round);
+            case 1: return x.unsubscribe(round % 3);
+            case 2: return x.subscribe(round % 4, 6 + round, 3 * round);
+            case 3: return x.advance(20);
+            case 4: return x.flush();
+            case 5: return x.addOutage(round % 2, x.count(0), x.count(0) + 8);
+            case 6: return x.setCapacity(4 + round);
+            case 7: return x.addSensor(5, 1, 1, 1, 1, 1);
+            default: return x.addDerived(round % 4, 1, 2);
+        }
+    }
+
+    /** All that can be looked at, but for the number of states. */
+    private static String allAnswers(SensorHub x) {
+        StringBuilder all = new StringBuilder();
+        for (int what = 0; what <= 9; what++) {
+            all.append(' ').append(what == 8 ? 0 : x.count(what)).append(' ').append(x.wakes(what));
+            for (int number = 0; number < 8; number++) {
+                all.append(' ').append(x.sensor(number, what)).append(' ').append(x.client(number, what));
+            }
+        }
+        for (int part = 0; part < 3; part++) {
+            for (int index = 0; index < 30; index++) {
+                all.append(' ').append(x.entry(index, part));
+            }
+            for (int index = 0; index < 48; index++) {
+                all.append(' ').append(x.delivered(index / 6, index % 6, part));
+            }
+        }
+        all.append(' ').append(x.nextDeadline()).append(' ').append(x.forecastWakes(60, 0));
+        return all.append(' ').append(x.smallestCapacity(60)).append(' ').append(x.tightestClient(60)).toString();
     }
 
     private static void undoGoesOn() {
@@ -856,6 +1027,9 @@ public final class PromiseTests {
         x.addOutage(1, 9, 9);
         x.advance(4);
         due("in the store", x.client(1, 4), 1);
+        x.subscribe(0, 9, 400);
+        x.undo();
+        due("in the store", x.client(1, 4), 1);
         x.advance(2);
         dueClient(x, 1, new int[] {1, 8, 3, 2, 0, 2, 1, 3, 2});
         dueClient(x, 0, new int[] {0, 5, 30, 1, 0, 3, 0, 4, 0});
@@ -864,6 +1038,7 @@ public final class PromiseTests {
         due("client(8, 0)", x.client(8, 0), INVALID);
         due("client(0, -1)", x.client(0, -1), INVALID);
         due("client(0, 9)", x.client(0, 9), INVALID);
+        entriesOfEach();
         stampsAfterNow();
     }
 
@@ -871,6 +1046,15 @@ public final class PromiseTests {
         for (int what = 0; what < want.length; what++) {
             due("client(" + client + ", " + what + ")", x.client(client, what), want[what]);
         }
+    }
+
+    private static void entriesOfEach() {
+        SensorHub x = clock();
+        x.subscribe(0, 1, 400);
+        x.subscribe(0, 3, 400);
+        x.advance(5);
+        due("of the first", x.client(0, 4), 5);
+        due("of the second", x.client(1, 4), 2);
     }
 
     /** After a first sample that is late, the next stamps can be greater than the times of receipt. */
@@ -888,6 +1072,14 @@ public final class PromiseTests {
         due("deadline after now", y.nextDeadline(), 19);
         y.flush();
         due("age is at least 0", y.client(0, 7), 0);
+        y.undo();
+        y.undo();
+        y.advance(13);
+        y.subscribe(4, 8, 0);
+        y.advance(4);
+        due("its only entry's stamp is after now", y.entry(1, 1), 19);
+        y.flush();
+        due("age is at least 0", y.client(1, 7), 0);
     }
 
     private static void entry() {
@@ -971,6 +1163,8 @@ public final class PromiseTests {
         x.advance(3);
         due("deadlines at 5, 10, ..", x.forecastWakes(7, 0), 2);
         due("one tick less", x.forecastWakes(6, 0), 1);
+        due("two ticks", x.forecastWakes(2, 0), 1);
+        due("one tick", x.forecastWakes(1, 0), 0);
         due("full", x.forecastWakes(500, 1), 0);
         x.setCapacity(2);
         due("full at 6, 8, ..", x.forecastWakes(500, 1), 249);
