@@ -319,8 +319,9 @@ public final class HistoryBoundaryTests {
         x.setCapacity(30);
         x.advance(30);
         due("flush", x.flush(), 30);
-        x.subscribe(0, 1, 0);
-        x.advance(30);
+        x.subscribe(0, 2, 400);
+        x.advance(20);
+        due("other entries", x.count(4), 30);
         x.undo();
         x.undo();
         due("undo of the flush", x.undo(), 2);

@@ -29,6 +29,7 @@ public final class SampleBoundaryTests {
         secondInputOfAnEarlierTick();
         secondInputWithoutASample();
         secondInputAfterARestart();
+        secondInputThatWasOff();
         oneInputMissing();
         sumWrapsAround();
         differenceWrapsAround();
@@ -257,6 +258,25 @@ public final class SampleBoundaryTests {
         x.subscribe(3, 9, 400);
         due("restart", x.count(7), 6);
         dueAt(x, 2, 5, new int[][] {{8, Hubs.MISSING}, {10, Hubs.MISSING}, {12, 12}});
+    }
+
+    private static void secondInputThatWasOff() {
+        CHECK.test("Samples: \"if the second input has not received any since the restart\": it has, before it was off");
+        SensorHub x = Hubs.of("sensor 2 1 1 0 0 1;sensor 5 1 1 0 0 1;mean 1 1;sum 0 2;");
+        x.subscribe(0, 2, 400);
+        x.subscribe(1, 5, 400);
+        x.subscribe(3, 5, 400);
+        dueAt(x, 3, 5, new int[][] {{4, Hubs.MISSING}, {6, 11}});
+        x.unsubscribe(2);
+        due("the second input is off", x.sensor(2, 2), Hubs.NONE);
+        x.advance(5);
+        due("no restart", x.count(7), 0);
+        due("its samples since the restart", x.sensor(2, 3), 1);
+        due("its latest stamp since then", x.sensor(2, 4), 5);
+        due("its latest value since then", x.sensor(2, 5), 5);
+        x.subscribe(3, 5, 400);
+        dueAt(x, 3, 5, new int[][] {{12, 17}, {14, 19}, {16, 31}});
+        due("samples of the sum: at 2, 4, 6, 12, 14 and 16", x.sensor(3, 3), 6);
     }
 
     private static void oneInputMissing() {

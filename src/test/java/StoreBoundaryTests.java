@@ -19,6 +19,7 @@ public final class StoreBoundaryTests {
         deliveredInTheirOrder();
         energyOfAWake();
         ageAtLeastZero();
+        ageOfTheOnlyEntry();
         sensorsInAscendingOrder();
         costsOfSamples();
         clientsInAscendingOrder();
@@ -215,6 +216,24 @@ public final class StoreBoundaryTests {
         x.advance(4);
         x.flush();
         due("age at 35", x.client(0, 7), 1);
+    }
+
+    private static void ageOfTheOnlyEntry() {
+        CHECK.test("promise 17: \"the greatest age of these\": 0 if the only one has a stamp after now");
+        SensorHub x = Hubs.of("sensor 1 1 0 0 0 1;sum 0 0;sum 0 0;sensor 10 1 1 0 9 1;");
+        // The sensor 3 is late by 3, 0, 7, 4, 1, ..: received at 13, 20, 37; the stamps are 13, 23 - 1 and 32 + 1.
+        x.subscribe(3, 10, 400);
+        x.advance(13);
+        x.subscribe(3, 10, 400);
+        due("no restart", x.count(7), 0);
+        x.advance(7);
+        due("stamp", x.entry(1, 1), 22);
+        x.flush();
+        due("age at 20", x.client(1, 7), 0);
+        x.advance(17);
+        due("stamp", x.entry(1, 1), 33);
+        x.flush();
+        due("age at 37", x.client(1, 7), 4);
     }
 
     private static void sensorsInAscendingOrder() {

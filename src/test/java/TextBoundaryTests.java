@@ -42,6 +42,7 @@ public final class TextBoundaryTests {
         otherSpaces();
         fromAHubAsAtFirst();
         anotherWord();
+        eachLetterCounts();
         anotherCharacter();
         wrongKindOfToken();
         firstErrorOnly();
@@ -420,6 +421,21 @@ public final class TextBoundaryTests {
         isWrong(ONE + "^s");
     }
 
+    private static void eachLetterCounts() {
+        CHECK.test("Text: \"another word\": a word of an item with one letter changed, left out or doubled");
+        for (String word : new String[] {"sensor", "sum", "diff", "max", "mean", "outage"}) {
+            for (int i = 0; i < word.length(); i++) {
+                String before = word.substring(0, i);
+                String letter = word.substring(i, i + 1);
+                String behind = word.substring(i + 1);
+                isWrong(ONE + "^" + before + "z" + behind + " 0 0;");
+                isWrong(ONE + "^" + before + (char) (letter.charAt(0) + 1) + behind + " 0 0;");
+                isWrong(ONE + "^" + before + behind + " 0 0;");
+                isWrong(ONE + "^" + before + letter + letter + behind + " 0 0;");
+            }
+        }
+    }
+
     private static void anotherCharacter() {
         CHECK.test("Text: \"another character\"");
         isWrong("^!");
@@ -549,6 +565,7 @@ public final class TextBoundaryTests {
     private static void readAfterForecasts() {
         CHECK.test("promise 10: \"all is as at first besides\": also after forecasts of another hub");
         SensorHub x = Hubs.clock();
+        x.advance(1);
         x.addOutage(0, 2, 3);
         x.subscribe(0, 1, 2);
         x.setCapacity(7);
