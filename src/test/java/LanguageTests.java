@@ -5,6 +5,9 @@ import java.lang.reflect.Modifier;
 import java.nio.file.Files;
 import java.nio.file.Path;
 import java.util.HashSet;
+import java.util.LinkedHashMap;
+import java.util.List;
+import java.util.Map;
 import java.util.Set;
 import java.util.regex.Matcher;
 import java.util.regex.Pattern;
@@ -16,6 +19,7 @@ public final class LanguageTests {
     private static final int MOST_PARAMETERS = 7;
     private static final int MOST_CLASSES = 12;
     private static final int MOST_FIELDS = 20;
+    private static final int DEEPEST_CALL = 8;
 
     public static void main(String[] args) throws IOException {
         Check check = new Check("LanguageTests");
@@ -25,6 +29,7 @@ public final class LanguageTests {
         words(check, code);
         library(check, code);
         sizes(check, code);
+        bodies(check, code);
         classes(check);
         check.finish();
     }
@@ -58,9 +63,73 @@ public final class LanguageTests {
                 first = i;
             }
             if (lines[i].matches(" {4}( {4})?\\}")) {
-                check.isTrue("short method before line " + lines[i], i - first < LONGEST_METHOD || lines[i].length() == 5);
+                check.isTrue("short method before line " + lines[i], i - first < LONGEST_METHOD);
             }
         }
+    }
+
+    private static void bodies(Check check, String code) {
+        check.test("rules 8, 11 and 12: no recursion, no deep calls, objects made by constructors alone");
+        Map<String, String> bodies = methodBodies(code);
+        check.isTrue("the methods are found", bodies.keySet().containsAll(
+                Set.of("SensorHub.advance", "Hub.wake", "Sensor.accept", "Text.isWord", "History.History")));
+        for (String method : bodies.keySet()) {
+            check.isTrue(method + " calls at most " + DEEPEST_CALL + " deep", depth(bodies, method, 1) <= DEEPEST_CALL);
+            String name = method.substring(method.indexOf('.') + 1);
+            check.isTrue(method + " makes no object", Character.isUpperCase(name.charAt(0))
+                    || !bodies.get(method).contains("new "));
+        }
+    }
+
+    /** The bodies by "Class.method"; the source is indented by four spaces a level. */
+    private static Map<String, String> methodBodies(String code) {
+        Map<String, String> bodies = new LinkedHashMap<>();
+        String inside = "SensorHub";
+        String method = "";
+        String end = "";
+        for (String line : code.split("\n")) {
+            Matcher head = Pattern.compile("^( {4}(?: {4})?)(?:\\w+ )*(\\w+)\\(.*\\{$").matcher(line);
+            if (line.matches("^ {4}private static final class .*")) {
+                inside = line.trim().split(" ")[4];
+            } else if (head.find()) {
+                method = inside + "." + head.group(2);
+                end = head.group(1) + "}";
+                bodies.put(method, "");
+            } else if (line.equals(end)) {
+                method = "";
+            } else if (bodies.containsKey(method)) {
+                bodies.put(method, bodies.get(method) + line + "\n");
+            }
+        }
+        return bodies;
+    }
+
+    /** How many calls stand open at once in this method, its own and those of the library included. */
+    private static int depth(Map<String, String> bodies, String method, int open) {
+        int deepest = open;
+        if (open > DEEPEST_CALL) {
+            return deepest;
+        }
+        Matcher call = Pattern.compile("(\\w+\\.)?\\b(\\w+)\\(").matcher(bodies.get(method));
+        while (call.find()) {
+            if (!Set.of("if", "for", "while", "switch").contains(call.group(2))) {
+                deepest = Math.max(deepest, open + 1);
+                for (String called : calledBy(bodies, method, call.group(1) != null, call.group(2))) {
+                    deepest = Math.max(deepest, depth(bodies, called, open + 1));
+                }
+            }
+        }
+        return deepest;
+    }
+
+    /** A name with a receiver is taken as that of each other class, one without as that of its own or the outer one. */
+    private static List<String> calledBy(Map<String, String> bodies, String method, boolean hasReceiver, String name) {
+        String own = method.substring(0, method.indexOf('.') + 1);
+        if (!hasReceiver && bodies.containsKey(own + name)) {
+            return List.of(own + name);
+        }
+        return bodies.keySet().stream().filter(other -> other.endsWith("." + name)
+                && (hasReceiver ? !other.startsWith(own) : other.startsWith("SensorHub."))).toList();
     }
 
     private static void classes(Check check) {
